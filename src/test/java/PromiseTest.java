@@ -429,5 +429,7 @@ public final class PromiseTest {
         due("best() of a chain", z.best(), 0);
         z.owe(4, 0, 2);
         due("least() of a ring", z.least(), 0);
+        z.owe(1, 0, 3);
+        due("least() with firm 0 owed", z.least(), 3);
     }
 }
