@@ -30,6 +30,7 @@ public final class PromiseTest {
         most();
         possible();
         least();
+        readmeExample();
         System.out.println(wrong == 0 ? "all answers are as due" : wrong + " answers are not as due");
         if (wrong != 0) {
             System.exit(1);
@@ -431,5 +432,21 @@ public final class PromiseTest {
         due("least() of a ring", z.least(), 0);
         z.owe(1, 0, 3);
         due("least() with firm 0 owed", z.least(), 3);
+    }
+
+    /** What README.md tells its reader. */
+    private static void readmeExample() {
+        ObligationNetting x = new ObligationNetting(3);
+        due("README: owe(0, 1, 3)", x.owe(0, 1, 3), 0);
+        due("README: owe(1, 2, 2)", x.owe(1, 2, 2), 1);
+        due("README: owe(2, 0, 1)", x.owe(2, 0, 1), 2);
+        due("README: balance(0)", x.balance(0), -2);
+        due("README: best()", x.best(), 3);
+        due("README: bestCode()", x.bestCode(), 21);
+        due("README: weight(1)", x.weight(1), 3);
+        due("README: clear()", x.clear(), 3);
+        amountsDue("README: after clear()", x, 2, 1, 0);
+        due("README: balance(0) then", x.balance(0), -2);
+        due("README: least()", x.least(), 2);
     }
 }
