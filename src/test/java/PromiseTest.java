@@ -387,6 +387,10 @@ public final class PromiseTest {
         y.owe(1, 0, 1);
         due("bestCode() strikes nothing off debt 3", y.bestCode() % 4, 0);
         due("most(3) of another clearing", y.most(3), 1);
+        ObligationNetting z = new ObligationNetting(2);
+        z.owe(0, 1, 3);
+        z.owe(1, 0, 3);
+        due("most(0) by the greatest code", z.most(0), 3);
         due("most(0) of none", new ObligationNetting(2).most(0), -1);
     }
 
@@ -405,6 +409,8 @@ public final class PromiseTest {
         x.exclude(1, 0);
         x.clear();
         due("cleared: possible()", x.possible(), 0);
+        x.owe(1, 0, 1);
+        due("1 off each of two: possible()", x.possible(), 1);
     }
 
     private static void least() {
@@ -412,6 +418,8 @@ public final class PromiseTest {
         due("least()", x.least(), 2);
         x.exclude(0, 1);
         due("least() counts firms that are out", x.least(), 2);
+        x.exclude(1, 1);
+        due("least() counts firms that are owed and out", x.least(), 2);
         x.change(2, 3);
         due("least() with balances 0, 1, -1", x.least(), 1);
         ObligationNetting y = new ObligationNetting(5);

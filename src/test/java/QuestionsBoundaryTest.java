@@ -242,6 +242,10 @@ public final class QuestionsBoundaryTest extends Checks {
             changesNothing(ONE_OUT, "most(" + good + ")", x -> x.most(good), oneOut[good]);
             changesNothing(ONE_OUT.takenIn(3), "most(" + good + ")", x -> x.most(good), allIn[good]);
         }
+        // Only the code with the digit 3 for every debt strikes 3 off.
+        State pair = NONE.owed(0, 1, 3).owed(1, 0, 3);
+        changesNothing(pair, "most(0) of a pair", x -> x.most(0), 3);
+        changesNothing(pair, "most(1) of a pair", x -> x.most(1), 3);
         for (int debt = 0; debt < 3; debt++) {
             int good = debt;
             changesNothing(RING.changed(2, 0), "a debt of 0: most(" + good + ")", x -> x.most(good), 0);
